@@ -1,0 +1,162 @@
+import java.util.Random;
+
+/** Random runs of calls, the same ones each time, on the program and on the model. */
+public final class ModelTest {
+    private static final int RUNS = 4000;
+    private static final int MOST_CALLS = 512;
+    private static final String[] SPACE = {" ", "\n", "  ", "#\n", "# a;$1\n", "#f(a)>\n"};
+    private static final String NOISE = "aZ09$(),;> \n#+~";
+
+    private final Random random;
+    private final RecipeRewriter program = new RecipeRewriter();
+    private final Model model = new Model();
+    private final int run;
+    private final int spaced;
+    private int calls;
+
+    private ModelTest(int run) {
+        this.run = run;
+        random = new Random(run);
+        spaced = random.nextInt(3) * 6;
+    }
+
+    public static void main(String[] args) {
+        int runs = args.length > 0 ? Integer.parseInt(args[0]) : RUNS;
+        for (int run = 0; run < runs; run++) {
+            new ModelTest(run).play();
+        }
+        Check.finish();
+    }
+
+    private void due(String call, int got, int want) {
+        Check.due("run " + run + " call " + calls + " " + call, got, want);
+        calls++;
+    }
+
+    private void play() {
+        while (calls < MOST_CALLS - 150) {
+            switch (random.nextInt(8)) {
+                case 0, 1 -> giveRule();
+                case 2 -> giveProgram();
+                case 3 -> giveNoise();
+                default -> rewrite();
+            }
+        }
+    }
+
+    private void type(String text) {
+        for (int i = 0; i < text.length(); i++) {
+            int c = text.charAt(i);
+            due("type(" + c + ")", program.type(c) ? 1 : 0, model.type(c) ? 1 : 0);
+        }
+    }
+
+    private void clear() {
+        program.clear();
+        model.clear();
+        calls++;
+    }
+
+    private void giveRule() {
+        String pattern = expression(random.nextInt(3), true);
+        String template = random.nextInt(12) == 0 ? deep("$0") : expression(random.nextInt(4), true);
+        type(space() + pattern + space() + ">" + space() + template + space());
+        due("rule()", program.rule(), model.rule());
+        due("buffered()", program.buffered(), model.buffered());
+        due("rules()", program.rules(), model.rules());
+        if (random.nextInt(3) > 0) {
+            clear();
+        }
+    }
+
+    private void giveProgram() {
+        StringBuilder text = new StringBuilder();
+        int statements = random.nextInt(5);
+        for (int s = 0; s < statements; s++) {
+            boolean odd = random.nextInt(8) == 0;
+            String inside = random.nextInt(10) == 0 ? deep("a") : expression(random.nextInt(4), odd);
+            text.append(space()).append(inside).append(space()).append(random.nextInt(15) == 0 ? "" : ";");
+        }
+        text.append(space());
+        type(text.substring(0, Math.min(text.length(), 62)));
+        due("load()", program.load(), model.load());
+        look();
+    }
+
+    private void giveNoise() {
+        int many = random.nextInt(20);
+        for (int n = 0; n < many; n++) {
+            type(NOISE.substring(random.nextInt(NOISE.length())).substring(0, 1));
+        }
+        int c = random.nextInt(140) - 5;
+        due("type(" + c + ")", program.type(c) ? 1 : 0, model.type(c) ? 1 : 0);
+        if (random.nextInt(2) == 0) {
+            due("load()", program.load(), model.load());
+            look();
+        }
+    }
+
+    private void rewrite() {
+        int most = random.nextInt(20) == 0 ? random.nextInt(14) - 2 : random.nextInt(3) + 1;
+        due("run(" + most + ")", program.run(most), model.run(most));
+        look();
+    }
+
+    private String space() {
+        return random.nextInt(24) < spaced ? SPACE[random.nextInt(SPACE.length)] : "";
+    }
+
+    private String expression(int depth, boolean holes) {
+        if (depth == 0 || random.nextInt(4) == 0) {
+            if (holes && random.nextInt(2) == 0) {
+                return "$" + random.nextInt(3);
+            }
+            return new String[] {"a", "b", "1", "01", "ab"}[random.nextInt(5)];
+        }
+        StringBuilder text = new StringBuilder(random.nextInt(3) == 0 ? "g" : "f").append(space()).append('(').append(space());
+        int many = random.nextInt(8) == 0 ? 0 : 1 + random.nextInt(2);
+        for (int n = 0; n < many; n++) {
+            text.append(n == 0 ? "" : space() + "," + space()).append(expression(depth - 1, holes));
+        }
+        return text.append(space()).append(')').toString();
+    }
+
+    private String deep(String inside) {
+        int depth = 6 + random.nextInt(8);
+        return "f(".repeat(depth) + inside + ")".repeat(depth);
+    }
+
+    /** Everything that can be asked, though only a few of the questions count as calls. */
+    private void look() {
+        int before = calls;
+        due("cycles()", program.cycles(), model.cycles());
+        due("rewritings()", program.rewritings(), model.rewritings());
+        Check.due("run " + run + " call " + calls + " text", Check.text(program), model.text());
+        due("length()", program.length(), model.length());
+        int length = model.length();
+        for (int p = -1; p <= length; p++) {
+            due("mark(" + p + ")", program.mark(p), model.mark(p));
+        }
+        due("statements()", program.statements(), model.statements());
+        for (int s = -1; s <= model.statements(); s++) {
+            due("kind(" + s + ")", program.kind(s), model.kind(s));
+        }
+        int expressions = model.expressions();
+        due("expressions()", program.expressions(), expressions);
+        for (int k = -1; k <= expressions; k++) {
+            due("start(" + k + ")", program.start(k), model.start(k));
+            due("end(" + k + ")", program.end(k), model.end(k));
+        }
+        for (int r = -1; r <= model.rules(); r++) {
+            due("fits(" + r + ")", program.fits(r), model.fits(r));
+        }
+        if (random.nextInt(12) == 0) {
+            due("distance()", program.distance(), model.distance());
+            for (int n = 0; n < 4; n++) {
+                int i = random.nextInt(length + 12) - 1;
+                due("step(" + i + ")", program.step(i), model.step(i));
+            }
+        }
+        calls = before + 10;
+    }
+}
