@@ -5,6 +5,8 @@ public final class ModelTest {
     private static final int RUNS = 4000;
     private static final int MOST_CALLS = 512;
     private static final String[] SPACE = {" ", "\n", "  ", "#\n", "# a;$1\n", "#f(a)>\n"};
+    private static final String[] LEAVES = {"a", "a", "b", "1", "01", "ab", "f"};
+    private static final String[] CALLS = {"f", "f", "f", "f", "f", "f", "f", "g", "g", "g", "a", "1"};
     private static final String NOISE = "aZ09$(),;> \n#+~";
 
     private final Random random;
@@ -111,9 +113,9 @@ public final class ModelTest {
             if (holes && random.nextInt(2) == 0) {
                 return "$" + random.nextInt(3);
             }
-            return new String[] {"a", "b", "1", "01", "ab"}[random.nextInt(5)];
+            return LEAVES[random.nextInt(LEAVES.length)];
         }
-        StringBuilder text = new StringBuilder(random.nextInt(3) == 0 ? "g" : "f").append(space()).append('(').append(space());
+        StringBuilder text = new StringBuilder(CALLS[random.nextInt(CALLS.length)]).append(space()).append('(').append(space());
         int many = random.nextInt(8) == 0 ? 0 : 1 + random.nextInt(2);
         for (int n = 0; n < many; n++) {
             text.append(n == 0 ? "" : space() + "," + space()).append(expression(depth - 1, holes));

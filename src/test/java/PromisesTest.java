@@ -464,6 +464,10 @@ public final class PromisesTest {
         due("19 a call is not a name", x.fits(1), 1);
         x = Check.with("f(a", "$0>1");
         due("19 opaque", x.fits(0), 0);
+        x = Check.with("f(a(b),a);f(a,a(b));f(a(b),a(c));f(a,b);f(1,01);f(a(),a( ));", "f($0,$0)>1");
+        due("19 the same hole, other tokens", x.fits(0), 1);
+        x = Check.with("f(a,g(b,a));f(a,g(a,b));f(a,g(b,b));", "f($7,g($3,$7))>1");
+        due("19 two holes", x.fits(0), 1);
     }
 
     private static void promise20Distance() {
