@@ -62,12 +62,12 @@ public final class PromisesTest {
     }
 
     private static void promise2Type() {
-        RecipeRewriter x = new RecipeRewriter();
         for (int c = -3; c <= 300; c++) {
-            x.clear();
-            due("2 type(" + c + ")", x.type(c), c == 10 || c >= 32 && c <= 126);
-            due("2 buffered after " + c, x.buffered(), c == 10 || c >= 32 && c <= 126 ? 1 : 0);
+            RecipeRewriter one = new RecipeRewriter();
+            due("2 type(" + c + ")", one.type(c), c == 10 || c >= 32 && c <= 126);
+            due("2 buffered after " + c, one.buffered(), c == 10 || c >= 32 && c <= 126 ? 1 : 0);
         }
+        RecipeRewriter x = new RecipeRewriter();
         due("2 least", x.type(Integer.MIN_VALUE), false);
         due("2 greatest", x.type(Integer.MAX_VALUE), false);
         x.clear();
