@@ -82,6 +82,9 @@ final class Model {
     private final List<Node> templates = new ArrayList<>();
     private int cycles;
     private int rewritings;
+    private String patchFrom = "";
+    private String patchTo = "";
+    private String patchKept = "";
 
     // What reads a text
 
@@ -443,6 +446,15 @@ final class Model {
     /** The best patch as a text of steps; a KEEP sorts before a DELETE, and that before an INSERT. */
     private String patch() {
         String to = text();
+        if (!loaded.equals(patchFrom) || !to.equals(patchTo)) {
+            patchFrom = loaded;
+            patchTo = to;
+            patchKept = bestPatch(to);
+        }
+        return patchKept;
+    }
+
+    private String bestPatch(String to) {
         String[][] best = new String[loaded.length() + 1][to.length() + 1];
         for (int i = loaded.length(); i >= 0; i--) {
             for (int j = to.length(); j >= 0; j--) {

@@ -2,8 +2,9 @@ import java.util.Random;
 
 /** Random runs of calls, the same ones each time, on the program and on the model. */
 public final class ModelTest {
-    private static final int RUNS = 4000;
+    private static final int RUNS = 12000;
     private static final int MOST_CALLS = 512;
+    private static final int SEEN = 50;
     private static final String[] SPACE = {" ", "\n", "  ", "#\n", "# a;$1\n", "#f(a)>\n"};
     private static final String[] LEAVES = {"a", "a", "b", "1", "01", "ab", "f"};
     private static final String[] CALLS = {"f", "f", "f", "f", "f", "f", "f", "g", "g", "g", "a", "1"};
@@ -128,37 +129,67 @@ public final class ModelTest {
         return "f(".repeat(depth) + inside + ")".repeat(depth);
     }
 
-    /** Everything that can be asked, though only a few of the questions count as calls. */
+    /** The counts, and a part of the rest: an object answers 512 calls, not more. */
     private void look() {
-        int before = calls;
         due("cycles()", program.cycles(), model.cycles());
         due("rewritings()", program.rewritings(), model.rewritings());
-        Check.due("run " + run + " call " + calls + " text", Check.text(program), model.text());
         due("length()", program.length(), model.length());
-        int length = model.length();
-        for (int p = -1; p <= length; p++) {
+        due("statements()", program.statements(), model.statements());
+        due("expressions()", program.expressions(), model.expressions());
+        switch (random.nextInt(6)) {
+            case 0 -> lookAtText(model.length());
+            case 1 -> lookAtMarks(model.length());
+            case 2 -> lookAtKinds(model.statements());
+            case 3 -> lookAtSpans(model.expressions());
+            case 4 -> lookAtFits(model.rules());
+            default -> lookAtPatch(model.length());
+        }
+    }
+
+    /** Mostly the first of some places, sometimes the last ones; with one place outside. */
+    private int firstSeen(int count, int seen) {
+        return random.nextInt(2) == 0 ? -1 : Math.max(-1, count - random.nextInt(seen));
+    }
+
+    private void lookAtText(int length) {
+        int first = firstSeen(length, SEEN);
+        for (int p = first; p < first + SEEN && p <= length; p++) {
+            due("at(" + p + ")", program.at(p), model.at(p));
+        }
+    }
+
+    private void lookAtMarks(int length) {
+        int first = firstSeen(length, SEEN);
+        for (int p = first; p < first + SEEN && p <= length; p++) {
             due("mark(" + p + ")", program.mark(p), model.mark(p));
         }
-        due("statements()", program.statements(), model.statements());
-        for (int s = -1; s <= model.statements(); s++) {
+    }
+
+    private void lookAtKinds(int count) {
+        for (int s = -1; s < SEEN && s <= count; s++) {
             due("kind(" + s + ")", program.kind(s), model.kind(s));
         }
-        int expressions = model.expressions();
-        due("expressions()", program.expressions(), expressions);
-        for (int k = -1; k <= expressions; k++) {
+    }
+
+    private void lookAtSpans(int count) {
+        int first = firstSeen(count, SEEN / 2);
+        for (int k = first; k < first + SEEN / 2 && k <= count; k++) {
             due("start(" + k + ")", program.start(k), model.start(k));
             due("end(" + k + ")", program.end(k), model.end(k));
         }
-        for (int r = -1; r <= model.rules(); r++) {
+    }
+
+    private void lookAtFits(int count) {
+        for (int r = -1; r <= count; r++) {
             due("fits(" + r + ")", program.fits(r), model.fits(r));
         }
-        if (random.nextInt(12) == 0) {
-            due("distance()", program.distance(), model.distance());
-            for (int n = 0; n < 4; n++) {
-                int i = random.nextInt(length + 12) - 1;
-                due("step(" + i + ")", program.step(i), model.step(i));
-            }
+    }
+
+    private void lookAtPatch(int length) {
+        due("distance()", program.distance(), model.distance());
+        int first = firstSeen(length, SEEN);
+        for (int i = first; i < first + SEEN; i++) {
+            due("step(" + i + ")", program.step(i), model.step(i));
         }
-        calls = before + 10;
     }
 }

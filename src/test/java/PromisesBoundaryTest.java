@@ -424,6 +424,8 @@ public final class PromisesBoundaryTest {
         due("to 120, with a blank behind", x.run(1) + " " + x.length(), "1 120");
         x = Check.with("\np(" + "x".repeat(28) + ");", rule);
         due("to 120, with a line end before", x.run(1) + " " + x.length(), "1 120");
+        x = Check.with("p(" + "x".repeat(28) + ");\n", "p($0)>        q($0,$0,$0,$0)        ");
+        due("to 120, with blanks around the template", x.run(1) + " " + x.length(), "1 120");
         x = Check.with("p(" + "x".repeat(28) + ");#c", rule);
         due("to 121, with a comment behind", x.run(1) + " " + x.length(), "-2 34");
         x = Check.with("  p(" + "x".repeat(28) + ");", rule);
